@@ -1145,7 +1145,8 @@ public final class HotPennies {
      * The asks, and the trace of the bodies that begin.
      *
      * <p>A small one's size asks for a mark, a glove's mark for a size: each asks within its own
-     * kinds only, so that no body can come back to itself.
+     * kinds only, so that no body can come back to itself. A body that another one goes on from has a
+     * method; the others stand where they are chosen.
      */
     private static final class Asks {
         private final int[] bodies = new int[MOST_TRACE];
@@ -1165,34 +1166,52 @@ public final class HotPennies {
         private int askSize(Child c) {
             switch (c.kind) {
                 case SMALL:
-                case SHY: return body11(c);
-                case BIG: return body12(c);
+                case SHY:
+                    return body11(c);
+                case BIG:
+                    begin(12);
+                    return -body11(c);
                 case GLOVE:
-                case APRON: return askGloveSize(c);
-                default: return body10(c);
+                case APRON:
+                    return askGloveSize(c);
+                default:
+                    return body10(c);
             }
         }
 
         private int askGloveSize(Child c) {
-            return c.kind == APRON ? body14(c) : body13(c);
+            if (c.kind == APRON) {
+                begin(14);
+                return 2 * body13(c);
+            }
+            return body13(c);
         }
 
         private int askMark(Child c) {
             switch (c.kind) {
                 case SMALL:
                 case BIG:
-                case SHY: return askSmallMark(c);
+                case SHY:
+                    return askSmallMark(c);
                 case GLOVE:
-                case APRON: return body23(c);
-                default: return body20(c);
+                case APRON:
+                    begin(23);
+                    return body20(c) - askGloveSize(c);
+                default:
+                    return body20(c);
             }
         }
 
         private int askSmallMark(Child c) {
             switch (c.kind) {
-                case BIG: return body24(c);
-                case SHY: return body22(c);
-                default: return body21(c);
+                case BIG:
+                    begin(24);
+                    return 2 * body21(c);
+                case SHY:
+                    begin(22);
+                    return body21(c) - 1000;
+                default:
+                    return body21(c);
             }
         }
 
@@ -1206,19 +1225,9 @@ public final class HotPennies {
             return body10(c) + askSmallMark(c);
         }
 
-        private int body12(Child c) {
-            begin(12);
-            return -body11(c);
-        }
-
         private int body13(Child c) {
             begin(13);
             return body10(c) - 100;
-        }
-
-        private int body14(Child c) {
-            begin(14);
-            return 2 * body13(c);
         }
 
         private int body20(Child c) {
@@ -1229,21 +1238,6 @@ public final class HotPennies {
         private int body21(Child c) {
             begin(21);
             return body20(c) + c.cell;
-        }
-
-        private int body22(Child c) {
-            begin(22);
-            return body21(c) - 1000;
-        }
-
-        private int body23(Child c) {
-            begin(23);
-            return body20(c) - askGloveSize(c);
-        }
-
-        private int body24(Child c) {
-            begin(24);
-            return 2 * body21(c);
         }
     }
 }

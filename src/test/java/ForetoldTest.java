@@ -197,6 +197,11 @@ public final class ForetoldTest {
         dueThrows(t, x, 2, 2, 2, 6);
         dueThrows(t, Check.told("law 0;child small 0 0 1;child small 5 0 1;"), 0, 2, 0, 4);
         dueThrows(t, Check.told("law 0;child small 2 2 1;"), 0, 1, 8);
+        dueThrows(t, Check.told("law 0;child small 0 0 1;"), 0, 1, 0);
+        dueThrows(t, Check.told("law 0;child small 5 4 1;"), 0, 1, 23);
+        dueThrows(t, Check.told("law 0;child shy 3 2 1;child shy 2 2 1;"), 0, 2, 14, 15);
+        dueThrows(t, Check.told("law 0;child shy 4 2 1;child shy 3 2 1;child shy 2 2 1;"), 0, 3, 14, 15, 16);
+        dueThrows(t, Check.told("law 0;child shy 3 4 1;child shy 4 4 1;child shy 5 4 1;"), 0, 3, 27, 28, 29);
         dueThrows(t, Check.told("law 0;"), 0, 0);
         dueThrows(t, Check.told("law 20;child small 2 2 1;"), 2, Check.NONE);
         String corners = "law 0;child small 0 0 1;child small 5 0 1;child small 0 4 1;child small 5 4 1;";

@@ -100,6 +100,11 @@ public final class TextTest {
         due(t, "Law 2;", 0, 1);
         due(t, "laW 2;", 0, 1);
         due(t, "lawW 2;", 3, 1);
+        due(t, "lawz 2;", 0, 1);
+        due(t, "saw 2;", 0, 1);
+        due(t, "lap 2;", 0, 1);
+        due(t, "law 2;train 0 0;", 6, 1);
+        due(t, "law 2;child pig 0 0 1;", 12, 1);
         due(t, "law law;", 4, 1);
         due(t, "law ;", 4, 1);
         due(t, "law 2000;", 4, 1);
