@@ -26,12 +26,14 @@ public final class HotPennies {
 
     private final Row[] rows = new Row[ROWS];
     private final Tape tape = new Tape();
+    // The square that is; one that is being read, which may have a fault; one that is tried out.
     private final Square now = new Square();
     private final Square draft = new Square();
     private final Square trial = new Square();
     private final Square[] images = new Square[IMAGES];
     private final Acts acts = new Acts();
     private final Landing landing = new Landing();
+    // By cells: the ways (bits) of one child and of his brother, the children (bits) who have some.
     private final int[] picks = new int[CELLS];
     private final int[] otherPicks = new int[CELLS];
     private final int[] pleased = new int[CELLS];
@@ -553,7 +555,7 @@ public final class HotPennies {
         return NONE;
     }
 
-    /** Tells for each cell which children (bits) have a mean above 0 of a throw at it. */
+    /** Tells for each cell which children (bits) have a mean above 0 of a penny that is aimed at it. */
     private void tellPleased(int spread) {
         for (int cell = 0; cell < pleased.length; cell++) {
             landing.throwAt(cell, spread);
@@ -561,7 +563,7 @@ public final class HotPennies {
         }
     }
 
-    /** Chooses the fewest cells so that all are pleased by a throw at one of them: how many. */
+    /** Chooses the fewest cells so that each child is pleased by one of them at least: how many. */
     private int fewestThrows(int all) {
         if (all == 0) {
             return 0;
@@ -851,7 +853,7 @@ public final class HotPennies {
         }
     }
 
-    /** Where pennies land: a cell, or BEYOND, for each of the ways of a throw or for each of some pennies. */
+    /** Where pennies land: a cell, or BEYOND, for each way that one can fly or for each of some pennies. */
     private static final class Landing {
         private final int[] cells = new int[MOST_THROWN];
         private int count;
