@@ -1,7 +1,10 @@
+import java.util.function.IntUnaryOperator;
+
 /** What the tests share: answers that are due, and texts that are fed. */
 final class Check {
     static final int NONE = -1000000, BAD = -1000001, STATE = -1000002, FULL = -1000003;
     static final int NULL = -1000011, PLACE = -1000012, KIND = -1000013, SIZE = -1000014, STORE = -1000015;
+    static final int MAX = Integer.MAX_VALUE, MIN = Integer.MIN_VALUE;
 
     private final String name;
     private int asked;
@@ -11,11 +14,43 @@ final class Check {
         this.name = name;
     }
 
+    /** A call on an object that is made later. */
+    interface Call {
+        int on(HotPennies x);
+    }
+
     void due(String call, long got, long want) {
         asked++;
         if (got != want) {
             wrong++;
             System.out.println(name + ": " + call + " answered " + got + ", due is " + want);
+        }
+    }
+
+    /** One argument of a call: no number from least to most is BAD, each one beyond is. */
+    void bounds(String call, int least, int most, IntUnaryOperator answer) {
+        int step = most - least > 100 ? (most - least) / 7 : 1;
+        for (int v = least; v < most; v += step) {
+            due(call + " with " + v + " is BAD", answer.applyAsInt(v) == BAD ? 1 : 0, 0);
+        }
+        due(call + " with " + most + " is BAD", answer.applyAsInt(most) == BAD ? 1 : 0, 0);
+        due(call + " with " + (most + 1), answer.applyAsInt(most + 1), BAD);
+        below(call, least, most, answer);
+        // Numbers that are good ones in their lowest bits.
+        for (int good : new int[] {least, most}) {
+            for (int far : new int[] {1 << 8, 1 << 16, 1 << 24, 1 << 30, MIN}) {
+                if (good + far < least || good + far > most) {
+                    due(call + " with " + (good + far), answer.applyAsInt(good + far), BAD);
+                }
+            }
+        }
+    }
+
+    private void below(String call, int least, int most, IntUnaryOperator answer) {
+        for (int v : new int[] {least - 1, least - 2, MIN, MIN + 1, MAX, MAX - 1, least - 256, least - 65536, ~most}) {
+            if (v < least || v > most) {
+                due(call + " with " + v, answer.applyAsInt(v), BAD);
+            }
         }
     }
 
