@@ -27,6 +27,7 @@ public final class ActBoundsTest {
         drawsOfManyPennies();
         tossOfOneToTwentyPennies();
         tossTellsHowManyWerePicked();
+        tossFullForEachOfFive();
         tossFullForAnybody();
         tossFullChangesNothing();
         tossUpToTheLastPenny();
@@ -107,7 +108,10 @@ public final class ActBoundsTest {
         T.due("to the next number, a line on", x.run(0, 6), 6);
     }
 
-    /** "of all places that are as FAR from it as SPREAD at most, also beyond the square, each has SPREAD and 1 less FAR of WAYS" */
+    /**
+     * "of all places that are as FAR from it as SPREAD at most, also beyond the square, each has SPREAD and 1 less
+     * FAR of WAYS"
+     */
     private static void waysOfEachPlace() {
         int[][] above = {{1}, {1, 1}, {3, 2, 1}};
         int[][] below = {{1}, {3, 6}, {19, 19, 19}};
@@ -360,6 +364,19 @@ public final class ActBoundsTest {
         return x;
     }
 
+    /** "FULL: somebody, whoever": the first of five, the last, and those between; 512 calls. */
+    private static void tossFullForEachOfFive() {
+        for (int who = 0; who < 5; who++) {
+            String ahead = "child shy0 0 1;".repeat(who);
+            HotPennies x = Check.told("law0;" + ahead + "child big5 4 9;" + "child shy0 0 1;".repeat(4 - who));
+            for (int k = 0; k < 499; k++) {
+                x.toss(29, 0, 20, 1);
+            }
+            T.due("toss of 20, child " + who + " has 9980", x.toss(0, 0, 20, 1), Check.FULL);
+            T.due("toss of 19, child " + who + " has 9980", x.toss(0, 0, 19, 1), 19);
+        }
+    }
+
     /** "FULL: somebody, whoever, might have more than 9999 by n more." */
     private static void tossFullForAnybody() {
         HotPennies x = nearlyFull();
@@ -431,13 +448,17 @@ public final class ActBoundsTest {
         }
     }
 
-    /** "who has less STRENGTH (big ones by twice theirs)". "STATE: the other one has no less STRENGTH". "BAD: alike, too" */
+    /**
+     * "who has less STRENGTH (big ones by twice theirs)". "STATE: the other one has no less STRENGTH". "BAD: alike,
+     * too"
+     */
     private static void cornerOfLessStrength() {
         String[] sorts = {"small", "big", "apron", "glove", "shy"};
         for (int a = 0; a < 5; a++) {
             for (int b = 0; b < 5; b++) {
                 for (int s = 1; s <= 9; s += 2) {
-                    HotPennies x = Check.told("law 0;child " + sorts[a] + " 0 0 " + s + ";child " + sorts[b] + " 1 0 4;");
+                    String me = "child " + sorts[a] + " 0 0 " + s + ";";
+                    HotPennies x = Check.told("law 0;" + me + "child " + sorts[b] + " 1 0 4;");
                     int mine = a == 1 ? 2 * s : s;
                     int his = b == 1 ? 8 : 4;
                     T.due("corner(0, 1), " + mine + " by " + his, x.corner(0, 1), mine > his ? 0 : Check.STATE);

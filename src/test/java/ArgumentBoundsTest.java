@@ -156,7 +156,7 @@ public final class ArgumentBoundsTest {
         T.bounds("cool(0, 14, ..)", 0, 2, spread -> x.cool(0, 14, spread));
     }
 
-    /** "STOOD, n ITEMS (0 to 20) of a ROW from i on; how many he had (0 to 20). BAD: ROW, n, CHILD, how many; ..; PLACE" */
+    /** "n ITEMS (0 to 20) of a ROW from i on; how many he had (0 to 20). BAD: ROW, n, CHILD, how many; ..; PLACE" */
     private static void stood() {
         HotPennies x = five();
         x.row(3, 1, 40);
@@ -253,6 +253,10 @@ public final class ArgumentBoundsTest {
                 x.ask(c, 0)));
     }
 
+    private static void dueBad(String call, int answer, boolean isBad) {
+        T.due(call + " is BAD", answer == Check.BAD ? 1 : 0, isBad ? 1 : 0);
+    }
+
     /** "there is no such thing": with 0 to 5 children, the last one, and the next. */
     private static void childrenThereAre() {
         String[] sorts = {"small", "big", "apron", "glove", "shy"};
@@ -262,15 +266,15 @@ public final class ArgumentBoundsTest {
             for (int c = -1; c <= 6; c++) {
                 boolean is = c >= 0 && c < n;
                 for (int answer : ofChild(x, c)) {
-                    T.due("a call with child " + c + " of " + n + " is BAD", answer == Check.BAD ? 1 : 0, is ? 0 : 1);
+                    dueBad("a call with child " + c + " of " + n, answer, !is);
                 }
-                T.due("rounds(9, 1, " + c + ") of " + n, x.rounds(9, 1, c) == Check.BAD ? 1 : 0, is || c == -1 ? 0 : 1);
+                dueBad("rounds(9, 1, " + c + ") of " + n, x.rounds(9, 1, c), !is && c != -1);
                 boolean two = is && n > 1;
                 int other = c == 0 ? 1 : 0;
-                T.due("brothers(" + c + ", ..) of " + n, x.brothers(c, other, 9, 1, 0) == Check.BAD ? 1 : 0, two ? 0 : 1);
-                T.due("brothers(.., " + c + ") of " + n, x.brothers(other, c, 9, 1, 0) == Check.BAD ? 1 : 0, two ? 0 : 1);
-                T.due("corner(" + c + ", ..) of " + n, x.corner(c, other) == Check.BAD ? 1 : 0, two ? 0 : 1);
-                T.due("corner(.., " + c + ") of " + n, x.corner(other, c) == Check.BAD ? 1 : 0, two ? 0 : 1);
+                dueBad("brothers(" + c + ", ..) of " + n, x.brothers(c, other, 9, 1, 0), !two);
+                dueBad("brothers(.., " + c + ") of " + n, x.brothers(other, c, 9, 1, 0), !two);
+                dueBad("corner(" + c + ", ..) of " + n, x.corner(c, other), !two);
+                dueBad("corner(.., " + c + ") of " + n, x.corner(other, c), !two);
             }
             if (n < 5) {
                 text.append("child ").append(sorts[n]).append(" 1 1 ").append(n + 1).append(';');

@@ -184,9 +184,13 @@ public final class AskedBoundsTest {
         }
     }
 
-    /** "1 SMALL, a CHILD; 2 BIG, a SMALL one; 3 SHY, a SMALL one; 4 GLOVE, a CHILD; 5 APRON, a GLOVE one", "3 KIND (a CHILD that is not that)" */
+    /**
+     * "1 SMALL, a CHILD; 2 BIG, a SMALL one; 3 SHY, a SMALL one; 4 GLOVE, a CHILD; 5 APRON, a GLOVE one", "3 KIND (a
+     * CHILD that is not that)"
+     */
     private static void kindsThatOneIs() {
-        int[][] is = {{1, 1, 0, 0, 0, 0}, {1, 1, 1, 0, 0, 0}, {1, 1, 0, 1, 0, 0}, {1, 0, 0, 0, 1, 0}, {1, 0, 0, 0, 1, 1}};
+        int[][] is = {{1, 1, 0, 0, 0, 0}, {1, 1, 1, 0, 0, 0}, {1, 1, 0, 1, 0, 0}, {1, 0, 0, 0, 1, 0},
+            {1, 0, 0, 0, 1, 1}};
         HotPennies x = Check.told("law 0;child small 0 0 1;child big 0 0 1;child shy 0 0 1;child glove 0 0 1;"
                 + "child apron 0 0 1;");
         for (int c = 0; c < 5; c++) {
@@ -230,7 +234,10 @@ public final class AskedBoundsTest {
         }
     }
 
-    /** "Of an ask the BODY told for the KIND begins, else that of the nearest KIND that it is, too, else the one that is lent" */
+    /**
+     * "Of an ask the BODY told for the KIND begins, else that of the nearest KIND that it is, too, else the one that
+     * is lent"
+     */
     private static void bodiesOfEachKind() {
         for (int first = 0; first < 5; first++) {
             StringBuilder text = new StringBuilder("law 0;");
@@ -273,7 +280,8 @@ public final class AskedBoundsTest {
     /** The least and the greatest STRENGTH and CELL. */
     private static void bodiesWithLeastAndGreatestNumbers() {
         for (int kind = 1; kind <= 5; kind++) {
-            HotPennies x = Check.told("law 20;child " + SORTS[kind - 1] + " 0 0 1;child " + SORTS[kind - 1] + " 5 4 9;");
+            String sort = "child " + SORTS[kind - 1];
+            HotPennies x = Check.told("law 20;" + sort + " 0 0 1;" + sort + " 5 4 9;");
             dueBodies(x, 0, kind, 1, 0);
             dueBodies(x, 1, kind, 9, 29);
         }
@@ -464,7 +472,7 @@ public final class AskedBoundsTest {
         T.due("status() of another object", new HotPennies().status(), 0);
     }
 
-    /** "Of the latest call with a ROW, or as() ..: the number of its FINDING": by each of these calls, each of these numbers. */
+    /** "Of the latest call with a ROW, or as() ..: the number of its FINDING": by each call, of each number. */
     private static void statusOfTheLatest() {
         HotPennies x = begun();
         due(x, x.row(2, 0, -1), Check.SIZE, 4);

@@ -1,9 +1,9 @@
 import java.util.ArrayList;
 import java.util.List;
 
-/** Runs of 512 calls that are drawn, on the class and on the model: all answers are alike. */
+/** Runs of 512 calls at most that are drawn, on the class and on the model: all answers are alike. */
 public final class ModelTest {
-    private static final int RUNS = 400, CALLS = 512;
+    private static final int RUNS = 400, CALLS = 460;
     private static final String[] SORTS = {"small", "big", "apron", "glove", "shy"};
     private static final String[] CRUMBS = {"law", "drain", "child", "small", "big", "apron", "glove", "shy", ";", " ",
         "\n", "0", "5", "6", "9", "10", "20", "21", "100", "1000", "x", "A", "-", "\t", "\u0000", "\u00e9"};

@@ -115,7 +115,8 @@ public final class RefusalOrderTest {
         x.row(0, 0, 3);
         x.row(1, 1, 3);
         x.row(2, 2, 0);
-        int[][] places = {{-1, 0, 1}, {0, -1, 1}, {0, 0, -1}, {3, 0, 1}, {0, 3, 1}, {0, 0, 4}, {MAX, MAX, MAX}, {0, 0, 0}};
+        int[][] places = {{-1, 0, 1}, {0, -1, 1}, {0, 0, -1}, {3, 0, 1}, {0, 3, 1}, {0, 0, 4}, {MAX, MAX, MAX},
+            {0, 0, 0}};
         for (int[] p : places) {
             T.due("STORE ahead of PLACE", x.copy(0, p[0], 1, p[1], p[2]), Check.STORE);
             T.due("STORE ahead of PLACE", x.copy(1, p[0], 2, p[1], p[2]), Check.STORE);

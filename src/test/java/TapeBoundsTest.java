@@ -233,7 +233,7 @@ public final class TapeBoundsTest {
         String[][] around = {{"law ", ";"}, {"law 7;drain ", " 0;"}, {"law 7;drain 0 ", ";"},
             {"law 7;child shy ", " 0 1;"}, {"law 7;child shy 0 ", " 1;"}, {"law 7;child shy 0 0 ", ";"}};
         for (String[] a : around) {
-            for (String run : new String[] {"0000", "0001", "0003", "00001", "1000", "9999", "10000", "1".repeat(100)}) {
+            for (String run : new String[] {"0000", "0001", "0003", "00001", "1000", "9999", "1".repeat(100)}) {
                 due(a[0] + run + a[1], at(a[0].length()), 1);
                 due(a[0] + "\n " + run + a[1], at(a[0].length() + 2), 1);
             }
@@ -469,7 +469,10 @@ public final class TapeBoundsTest {
         T.due("nor of a number", Check.read(x, "law 7;drain 1"), at(13));
     }
 
-    /** "A SQUARE that is read stands in place of the one before: nobody has a penny; no ACT can be undone; IMAGES and ROWS stay." */
+    /**
+     * "A SQUARE that is read stands in place of the one before ..: nobody has a penny; no ACT can be undone; IMAGES
+     * and ROWS stay."
+     */
     private static void squareStandsInPlaceOfTheOneBefore() {
         HotPennies x = Check.told("law 7;drain 0 0;drain 5 4;child glove 2 2 9;child apron 1 1 8;child shy 5 4 7;");
         Check.tellRow(x, 0, 3, 4);
