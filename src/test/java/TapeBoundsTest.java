@@ -33,6 +33,7 @@ public final class TapeBoundsTest {
         placeIsTheFirstByte();
         placeOfTheEnd();
         squareStandsInPlaceOfTheOneBefore();
+        squareLeavesNoActAndNoPenny();
         faultLeavesAllButTheTape();
         faultTellsTheLatest();
         T.end();
@@ -506,6 +507,29 @@ public final class TapeBoundsTest {
         T.due("count(1)", x.count(1), 0);
         T.due("count(2)", x.count(2), 0);
         T.due("child(0, 0)", x.child(0, 0), Check.BAD);
+    }
+
+    /** "nobody has a penny; no ACT can be undone": however many there were, and if the text is the same again. */
+    private static void squareLeavesNoActAndNoPenny() {
+        String text = "law 0;child glove 0 0 1;child glove 2 2 1;child glove 5 4 1;child apron 5 0 1;child big 0 4 1;";
+        for (int acts : new int[] {1, 2, 23, 24, 25, 60}) {
+            HotPennies x = Check.told(text);
+            for (int act = 0; act < acts; act++) {
+                x.toss(new int[] {0, 14, 29, 5, 24}[act % 5], 0, 3, 1);
+            }
+            T.due("count(5) of " + acts + " throws", x.count(5), 3 * acts);
+            T.due("the same text again", Check.read(x, text), good(5));
+            T.due("count(4) after " + acts + " throws and a square", x.count(4), 0);
+            T.due("count(5)", x.count(5), 0);
+            for (int c = 0; c < 5; c++) {
+                T.due("child(" + c + ", 2)", x.child(c, 2), 0);
+            }
+            T.due("undo()", x.undo(), Check.STATE);
+            x.run(0, 1);
+            T.due("undo() of an act since", x.undo(), 0);
+            T.due("undo() of no more", x.undo(), Check.STATE);
+            T.due("count(5) as it was then", x.count(5), 0);
+        }
     }
 
     /** "all but the tape, and what fault() tells, stays": of each kind of fault, wherever it is. */
