@@ -10,7 +10,7 @@ import java.util.List;
  * <p>A square is told anew for each question, so that no object is used for more than 512 calls.
  */
 public final class ForetoldAndDoneTest {
-    private static final int SQUARES = 60;
+    private static final int SQUARES = 150;
     private static final String[] SORTS = {"small", "big", "apron", "glove", "shy"};
 
     private static final Check T = new Check("ForetoldAndDoneTest");
@@ -35,9 +35,7 @@ public final class ForetoldAndDoneTest {
             test.throwsFor(spread);
             test.cool(cell, spread);
             test.stood();
-            if (square % 4 < 2) {
-                test.brothers(cell, spread);
-            }
+            test.brothers(cell, spread);
         }
         T.end();
     }
